@@ -72,7 +72,7 @@ public final class ModelTest {
 
     private void programs() {
         for (int i = 0; i < 2; i++) {
-            signals = 1 + pick(6);
+            signals = 1 + pick(1 + pick(6));
             putTogether(1 + pick(16));
             program();
             int ticks = 2 + pick(5);
@@ -95,12 +95,15 @@ public final class ModelTest {
     /** Ends with one statement on the stack, of at most so many in all; its exits may lack traps. */
     private void putTogether(int most) {
         due("discard", x.discard(), m.discard());
-        int left = most;
+        // An emit after the rest makes what is found out hang on how the rest finishes.
+        boolean feedback = most > 4 && pick(2) == 0;
+        int left = feedback ? most - 3 : most;
         while (left > 0) {
             // Each but one of those on the stack needs a two.
             int spare = left - Math.max(m.depth() - 1, 0);
             if (m.depth() == 0 || (spare > 1 && pick(5) < 2)) {
-                simple(new int[] {0, 1, 1, 1, 2, 2, 2, 3}[pick(8)], pick(10) < 7 ? pick(Math.min(signals, 3)) : pick(6));
+                int[] ops = {0, 1, 1, 2, 2, 3};
+                simple(ops[pick(ops.length)], pick(10) < 7 ? pick(Math.min(signals, 3)) : pick(6));
             } else if (spare > 0 && pick(2) == 0) {
                 one(pick(3), pick(signals));
             } else if (m.depth() > 1) {
@@ -109,6 +112,11 @@ public final class ModelTest {
                 one(1, 0);
             }
             left--;
+        }
+        if (feedback) {
+            one(1, 0);
+            simple(2, pick(signals));
+            two(0, 0);
         }
     }
 

@@ -2,6 +2,7 @@ public final class Promise07ProgramTest {
     public static void main(String[] args) {
         howMany();
         exits();
+        discardedTrapsAreGone();
         tooFewIsSeenFirst();
         refusedChangesNothing();
         beginsAnew();
@@ -48,6 +49,14 @@ public final class Promise07ProgramTest {
         ReactiveTicks x = new ReactiveTicks();
         Programs.push(x, words);
         Check.due(what, x.program(), ReactiveTicks.BAD_EXIT);
+    }
+
+    private static void discardedTrapsAreGone() {
+        ReactiveTicks x = new ReactiveTicks();
+        Programs.push(x, "exit0 trap");
+        x.discard();
+        Programs.push(x, "exit0");
+        Check.due("its trap was discarded", x.program(), ReactiveTicks.BAD_EXIT);
     }
 
     private static void tooFewIsSeenFirst() {

@@ -104,6 +104,9 @@ public final class Promise09TickTest {
         Programs.dueTick("traps 1", x, 0, GOES_ON, 0);
         Programs.dueTick("traps 2", x, 0, ENDED, 4);
 
+        ReactiveTicks beside = Programs.fresh("pause trap exit0 par trap emit0 seq");
+        Programs.dueTick("a trap of a pause has a code for the par", beside, 0, ENDED, 1);
+
         ReactiveTicks plain = Programs.fresh("pause trap emit0 seq");
         Programs.dueTick("a trap lets 1 by", plain, 0, GOES_ON, 0);
         Programs.dueTick("a trap lets 0 by", plain, 0, ENDED, 1);
@@ -125,6 +128,10 @@ public final class Promise09TickTest {
         Programs.dueTick("each found after the one before", longest, 0, ENDED, 2 + 8);
         longest.restart();
         Programs.dueTick("each found after the one before", longest, 1, ENDED, 4 + 16);
+
+        ReactiveTicks all = Programs.fresh(
+            "emit1 emit2 emit3 emit4 emit5 pause nothing test5 test4 test3 test2 test1 test0");
+        Programs.dueTick("all six, one after the other", all, 0, ENDED, 0);
 
         ReactiveTicks both = Programs.fresh("emit1 emit1 test0");
         Programs.dueTick("0 can't be emitted, so it is absent", both, 0, ENDED, 2);
@@ -153,6 +160,10 @@ public final class Promise09TickTest {
 
         ReactiveTicks looped = Programs.fresh("nothing pause test0 loop emit0 seq");
         Programs.dueTick("a loop never ends", looped, 0, GOES_ON, 0);
+
+        ReactiveTicks unsure = Programs.fresh("nothing pause test0 loop exit0 par trap emit0 seq");
+        Programs.dueTick("a loop of what has no code has none", unsure, 0, STUCK, 0);
+        Programs.dueTick("with 0", unsure, 1, ENDED, 0);
 
         ReactiveTicks waits = Programs.fresh("nothing pause test0 pause par emit0 seq");
         Programs.dueTick("a par ends no sooner than both", waits, 0, GOES_ON, 0);
