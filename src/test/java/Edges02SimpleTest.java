@@ -82,7 +82,8 @@ public final class Edges02SimpleTest {
     private static void fullCountsWhatWasMade() {
         Check.sentence("16 statements were made since the stack was last emptied");
         ReactiveTicks ones = new ReactiveTicks();
-        Programs.push(ones, "pause loop trap suspend0 loop trap suspend0 loop trap suspend0 loop trap suspend0 loop trap");
+        Programs.push(ones,
+            "pause loop trap suspend0 loop trap suspend0 loop trap suspend0 loop trap suspend0 loop trap");
         Check.due("15 made, the 16th", ones.simple(0, 0), 15);
         Check.due("16 made, two on the stack", ones.simple(0, 0), ReactiveTicks.FULL);
 

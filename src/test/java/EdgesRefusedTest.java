@@ -64,8 +64,8 @@ public final class EdgesRefusedTest {
         calls.put("two(2, 5)", x -> x.two(2, 5));
         dueRefused(program + "emit3" + LOOPS, ReactiveTicks.FULL, calls);
         dueRefused(program + "exit0" + LOOPS, ReactiveTicks.FULL, calls);
-        dueRefused(program + "emit3 pause seq emit4 seq emit5 trap loop suspend0 loop trap loop suspend0 loop trap loop",
-            ReactiveTicks.FULL, calls);
+        String two = "emit3 pause seq emit4 seq emit5 trap loop suspend0 loop trap loop suspend0 loop trap loop";
+        dueRefused(program + two, ReactiveTicks.FULL, calls);
     }
 
     private static void tooFew(String program) {

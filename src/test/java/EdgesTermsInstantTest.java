@@ -35,7 +35,8 @@ public final class EdgesTermsInstantTest {
     }
 
     private static void asLongAsThatChanges() {
-        Check.sentence("Then, as long as that changes anything: the program is looked at with the statuses known so far");
+        Check.sentence("Then, as long as that changes anything: the program is looked at with the "
+            + "statuses known so far");
         // Each look finds out just one signal, 0 first.
         String absent = "emit1 emit2 emit3 emit4 emit5 pause nothing test5 test4 test3 test2 test1 test0";
         Programs.dueTick("six looks, all absent", Programs.fresh(absent), 0, ENDED, 0);
@@ -74,7 +75,8 @@ public final class EdgesTermsInstantTest {
     }
 
     private static void stuckChangesNothing() {
-        Check.sentence("If some signal is unknown still, the instant is STUCK: nothing changes, it is as if it had not been");
+        Check.sentence("If some signal is unknown still, the instant is STUCK: nothing changes, it is as if it "
+            + "had not been");
         String[] pasts = {
             "emit0 nothing test0 pause seq program",
             "nothing loop pause par emit0 pause test0 par program",
@@ -107,8 +109,8 @@ public final class EdgesTermsInstantTest {
     }
 
     private static void pausesThatAreOn() {
-        Check.sentence("the pauses that are on are those that were started, and those that were on and stand in a suspend "
-            + "that was resumed with its signal present");
+        Check.sentence("the pauses that are on are those that were started, and those that were on and stand in a "
+            + "suspend that was resumed with its signal present");
         ReactiveTicks x = Programs.fresh("pause pause seq pause suspend0 par suspend1");
         x.tick(3);
         Programs.dueActive("started, though 0 and 1 are present", x, 7, 0, 3);
@@ -129,8 +131,8 @@ public final class EdgesTermsInstantTest {
     }
 
     private static void loopsThatWait() {
-        Check.sentence("the loops that wait are those whose P finished with 0, and those that waited and stand in a suspend "
-            + "that was resumed with its signal present");
+        Check.sentence("the loops that wait are those whose P finished with 0, and those that waited and stand in "
+            + "a suspend that was resumed with its signal present");
         ReactiveTicks x = Programs.fresh("pause loop loop suspend0");
         x.tick(1);
         Programs.dueActive("P goes on", x, 4, 0);
@@ -153,8 +155,8 @@ public final class EdgesTermsInstantTest {
     }
 
     private static void notThoseInAPar() {
-        Check.sentence("but not those that stand in a par that itself finished with a code above 1, in whichever of its "
-            + "parts");
+        Check.sentence("but not those that stand in a par that itself finished with a code above 1, in whichever of "
+            + "its parts");
         String[] exits = {"exit0", "exit1", "exit2"};
         for (int k = 0; k <= 2; k++) {
             dueStopped("pause " + exits[k] + " par");
@@ -166,7 +168,8 @@ public final class EdgesTermsInstantTest {
         ReactiveTicks one = Programs.fresh("pause pause par trap pause seq");
         one.tick(0);
         Programs.dueActive("code 1 stops none", one, 6, 0, 1);
-        ReactiveTicks held = Programs.fresh("pause suspend0 nothing loop suspend0 par pause exit0 seq par trap pause seq");
+        ReactiveTicks held = Programs.fresh(
+            "pause suspend0 nothing loop suspend0 par pause exit0 seq par trap pause seq");
         held.tick(0);
         Programs.dueActive("before", held, 13, 0, 3, 6);
         held.tick(1);
@@ -205,7 +208,9 @@ public final class EdgesTermsInstantTest {
 
     private static void finishesWithZero() {
         Check.sentence("If the program finishes with 0 it has ENDED.");
-        String[] ending = {"nothing", "emit0", "exit0 trap", "nothing nothing par", "nothing suspend0", "pause nothing test0"};
+        String[] ending = {
+            "nothing", "emit0", "exit0 trap", "nothing nothing par", "nothing suspend0", "pause nothing test0",
+        };
         for (String words : ending) {
             ReactiveTicks x = Programs.fresh(words);
             Check.due(words, x.tick(0), ENDED);

@@ -11,6 +11,7 @@ public final class EdgesTermsSetsTest {
         codes();
         seqMust();
         seqCan();
+        seqResumed();
         inactivePart();
         parMust();
         parCan();
@@ -113,6 +114,23 @@ public final class EdgesTermsSetsTest {
         Programs.dueTick(what, Programs.fresh(words), inputs, outcome, emitted);
     }
 
+    private static void seqResumed() {
+        Check.sentence("Resumed, with P active: the same with P resumed; with Q active: as Q resumed.");
+        ReactiveTicks x = Programs.fresh("pause pause seq pause pause seq seq");
+        for (int number : new int[] {0, 1, 3, 4}) {
+            Programs.dueTick("before " + number, x, 0, GOES_ON, 0);
+            Programs.dueActive("just one of P or of Q", x, 7, number);
+        }
+        Programs.dueTick("Q resumed ends", x, 0, ENDED, 0);
+        ReactiveTicks emits = Programs.fresh("emit0 pause seq emit1 pause seq emit2 seq seq");
+        Programs.dueTick("P started", emits, 0, GOES_ON, 1);
+        Programs.dueTick("P resumed and Q started", emits, 0, GOES_ON, 2);
+        Programs.dueTick("Q resumed", emits, 0, ENDED, 4);
+        ReactiveTicks exits = Programs.fresh("pause exit1 seq emit0 seq" + AFTER);
+        Programs.dueTick("P started", exits, 0, GOES_ON, 0);
+        Programs.dueTick("P resumed exits", exits, 0, ENDED, 4);
+    }
+
     private static void inactivePart() {
         Check.sentence("and the one that is not finishes with 0 and emits nothing");
         String[] rows = {"emit0 pause emit1 seq par emit2 seq", "pause emit1 seq emit0 par emit2 seq"};
@@ -121,9 +139,17 @@ public final class EdgesTermsSetsTest {
             Programs.dueTick(row, x, 0, GOES_ON, 1);
             Programs.dueTick(row, x, 0, ENDED, 2 + 4);
         }
-        ReactiveTicks exited = Programs.fresh("exit0 trap pause exit0 seq trap par emit2 seq");
-        Programs.dueTick("whatever it finished with before", exited, 0, GOES_ON, 0);
-        Programs.dueTick("whatever it finished with before", exited, 0, ENDED, 4);
+        String[] inactive = {
+            "exit0 trap", "exit0 loop trap", "nothing suspend5", "nothing pause test5", "exit0 loop suspend5 trap",
+        };
+        for (String part : inactive) {
+            String[] sides = {part + " pause par emit2 seq", "pause " + part + " par emit2 seq"};
+            for (String row : sides) {
+                ReactiveTicks x = Programs.fresh(row);
+                Programs.dueTick(row, x, 32, GOES_ON, 0);
+                Programs.dueTick(row, x, 32, ENDED, 4);
+            }
+        }
     }
 
     private static void parMust() {
@@ -149,6 +175,8 @@ public final class EdgesTermsSetsTest {
         dueFirst("0 or 1 with 0 may be 0", "nothing pause test0 nothing par emit0 seq", 0, STUCK, 0);
         dueFirst("0 or 3 with 2 may be 2", "nothing exit1 test0 exit0 par trap emit0 seq trap", 0, STUCK, 0);
         dueFirst("3 or 4 with 2 is not 2", "exit2 exit1 test0 exit0 par trap emit0 seq trap trap", 0, ENDED, 0);
+        dueFirst("1 or 2 with 0 may be 2", "pause exit0 test0 nothing par trap emit0 seq", 0, STUCK, 0);
+        dueFirst("0 with 1 or 2 may be 2", "nothing pause exit0 test0 par trap emit0 seq", 0, STUCK, 0);
         dueFirst("any of P with any of Q", "exit0 nothing test1 nothing exit0 test1 par emit1 seq trap", 0, STUCK, 0);
     }
 
@@ -159,6 +187,8 @@ public final class EdgesTermsSetsTest {
             Programs.dueTick("it does not end", x, 0, GOES_ON, 1);
         }
         dueFirst("it can't end", "nothing pause test0 loop emit0 seq", 0, GOES_ON, 0);
+        dueFirst("no code for P is none for it", "nothing pause test0 loop exit0 par trap emit0 seq", 0, STUCK, 0);
+        dueFirst("no 1 where there is no 0", "exit1 loop exit0 par trap emit0 seq trap", 0, ENDED, 0);
         dueFirst("a loop in a loop", "nothing loop loop emit0 seq", 0, GOES_ON, 0);
         dueFirst("other codes stay: 2", "exit0 loop trap emit0 seq", 0, ENDED, 1);
         dueFirst("other codes stay: 4", "exit2 loop" + AFTER, 0, ENDED, 0);
@@ -185,8 +215,8 @@ public final class EdgesTermsSetsTest {
     }
 
     private static void testUnknown() {
-        Check.sentence("if it is unknown: it must emit nothing and finish with no code, and it can emit and finish with "
-            + "all that P started or Q started can");
+        Check.sentence("if it is unknown: it must emit nothing and finish with no code, and it can emit and finish "
+            + "with all that P started or Q started can");
         dueFirst("both emit it, yet neither must", "emit0 emit0 test0", 0, STUCK, 0);
         dueFirst("both end, yet it must not", "nothing nothing test0 emit0 seq", 0, STUCK, 0);
         dueFirst("P can emit it", "emit0 nothing test0", 0, STUCK, 0);
@@ -253,15 +283,17 @@ public final class EdgesTermsSetsTest {
     }
 
     private static void suspendUnknown() {
-        Check.sentence("if it is unknown: it must emit nothing and finish with no code, and can emit what P resumed can, "
-            + "and finish with the codes with which P resumed can, and with 1");
+        Check.sentence("if it is unknown: it must emit nothing and finish with no code, and can emit what P resumed "
+            + "can, and finish with the codes with which P resumed can, and with 1");
         dueSecond("it can emit it", "pause emit0 seq suspend0", STUCK, 0);
         dueSecond("it can't", "pause emit1 seq suspend0", ENDED, 2);
         dueSecond("it must emit nothing", "pause emit1 emit0 seq seq suspend0", STUCK, 0);
         dueSecond("it can finish with 0", "pause suspend0 emit0 seq", STUCK, 0);
         dueSecond("P resumed goes on, so it can't", "pause pause seq suspend0 emit0 seq", GOES_ON, 0);
         dueSecond("P resumed exits, so it can't", "pause exit0 seq suspend0 emit0 seq trap", ENDED, 0);
-        dueSecond("with 1 beside an exit", "pause exit1 seq suspend0 pause exit0 seq par trap emit0 seq trap", STUCK, 0);
+        dueSecond("with 1, and not with 2", "pause pause seq suspend0 trap emit0 seq", GOES_ON, 0);
+        dueSecond("with 1 beside an exit", "pause exit1 seq suspend0 pause exit0 seq par trap emit0 seq trap",
+            STUCK, 0);
         dueSecond("no 1 if it is not in doubt", "pause exit1 seq suspend1 pause exit0 seq par trap emit0 seq trap",
             ENDED, 0);
     }
