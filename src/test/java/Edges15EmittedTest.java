@@ -4,6 +4,7 @@ public final class Edges15EmittedTest {
         otherThanInputs();
         ifNotStuck();
         ifStuck();
+        ifStuckOtherThanInputs();
         noneAfterTheEnd();
         changesNothing();
         Check.end();
@@ -59,6 +60,25 @@ public final class Edges15EmittedTest {
         Check.due("stuck later", later.look(0), ReactiveTicks.STUCK);
         Check.due("found before it is", later.emitted(0), 8);
         Check.due("not stuck", later.emitted(1), 8);
+    }
+
+    /** "Those" are signals other than those of inputs too. */
+    private static void ifStuckOtherThanInputs() {
+        Check.sentence("else those that would be found present before it is");
+        String words = "emit1 emit2 nothing test2 seq emit4 nothing test1 par emit5 par emit3 emit0 test4 par";
+        for (int inputs = 0; inputs < 64; inputs++) {
+            ReactiveTicks x = Programs.fresh(words);
+            int found = x.emitted(inputs);
+            boolean stuck = (inputs & 4) == 0;
+            Check.due("stuck with " + inputs, x.look(inputs) == ReactiveTicks.STUCK ? 1 : 0, stuck ? 1 : 0);
+            x.tick(inputs);
+            int present = 0;
+            for (int s = 0; s < 6; s++) {
+                present |= x.status(s) == 1 ? 1 << s : 0;
+            }
+            Check.due("present with " + inputs, present, 2 + 8 + 16 + 32 | inputs);
+            Check.due("emitted(" + inputs + ")", found, present & ~inputs);
+        }
     }
 
     private static void noneAfterTheEnd() {
